@@ -23,8 +23,8 @@ public final class GateNames {
     private final Road road = new Road();
     private final int[][] keptDeeds = new int[PLACES][MOST_DEEDS];
     private final int[] keptSizes = new int[PLACES];
-    private final int[] onceMet = new int[MOST_GOERS];
-    private final int[] twiceMet = new int[MOST_GOERS];
+    private final int[] firstTrial = new int[MOST_GOERS];
+    private final int[] secondTrial = new int[MOST_GOERS];
     private final int[] findingCounts = new int[SIZE + 1];
     private int latestFinding = 0;
     private int answer = 0;
@@ -391,7 +391,7 @@ public final class GateNames {
         }
         int question = 0;
         int least = KINDS + 1;
-        for (int set = 0; set < 1 << gate.goers; set++) {
+        for (int set = 0; set < (1 << gate.goers); set++) {
             int part = greatestPart(possible, i, set);
             if (part < least) {
                 question = set;
@@ -654,7 +654,7 @@ public final class GateNames {
 
     private boolean allCome(int[] told) {
         road.look(gate, told);
-        if (!road.allReachable()) {
+        if (!road.mayAllCome()) {
             return false;
         }
         road.chain();
@@ -665,8 +665,8 @@ public final class GateNames {
         for (int i = 0; i < gate.goers; i++) {
             for (int j = i + 1; j < gate.goers; j++) {
                 if (gate.canMeet(i, j)) {
-                    gate.meetAside(i, j, gate.told, onceMet);
-                    if (allCome(onceMet)) {
+                    gate.meetAside(i, j, gate.told, firstTrial);
+                    if (allCome(firstTrial)) {
                         return 10 * i + j;
                     }
                 }
@@ -679,7 +679,7 @@ public final class GateNames {
         for (int i = 0; i < gate.goers; i++) {
             for (int j = i + 1; j < gate.goers; j++) {
                 if (gate.canMeet(i, j)) {
-                    gate.meetAside(i, j, gate.told, onceMet);
+                    gate.meetAside(i, j, gate.told, firstTrial);
                     int second = secondMeeting();
                     if (second != NONE) {
                         return 100 * (10 * i + j) + second;
@@ -694,8 +694,8 @@ public final class GateNames {
         for (int i = 0; i < gate.goers; i++) {
             for (int j = i + 1; j < gate.goers; j++) {
                 if (gate.canMeet(i, j)) {
-                    gate.meetAside(i, j, onceMet, twiceMet);
-                    if (allCome(twiceMet)) {
+                    gate.meetAside(i, j, firstTrial, secondTrial);
+                    if (allCome(secondTrial)) {
                         return 10 * i + j;
                     }
                 }
@@ -708,9 +708,9 @@ public final class GateNames {
         int card = gate.onStone | gate.tellingOf(i);
         for (int j = 0; j < gate.goers; j++) {
             boolean reader = j != i && gate.waits(j);
-            onceMet[j] = reader ? gate.told[j] | (card & ~(1 << j)) : gate.told[j];
+            firstTrial[j] = reader ? gate.told[j] | (card & ~(1 << j)) : gate.told[j];
         }
-        road.survey(gate, onceMet);
+        road.survey(gate, firstTrial);
         road.rank();
         return road.best[road.left];
     }
@@ -791,7 +791,7 @@ public final class GateNames {
     }
 
     private static boolean isIn(int set, int i) {
-        return (set >> i & 1) != 0;
+        return ((set >> i) & 1) != 0;
     }
 
     private static long power(int base, int exponent) {
@@ -940,11 +940,11 @@ public final class GateNames {
         }
 
         private boolean holds(int set) {
-            return set >= 0 && set < 1 << goers;
+            return set >= 0 && set < (1 << goers);
         }
 
         private int left() {
-            return (1 << goers) - 1 & ~gone;
+            return ((1 << goers) - 1) & ~gone;
         }
 
         private boolean waits(int i) {
@@ -971,7 +971,7 @@ public final class GateNames {
                 } else {
                     kindOf[goers] = kind;
                     worths[goers] = text[place + 1] - FIGURE_0;
-                    toldAtFirst[goers] = 1 << text[place + 2] - FIGURE_0;
+                    toldAtFirst[goers] = 1 << (text[place + 2] - FIGURE_0);
                     ofKind[kind] |= 1 << goers;
                     goers++;
                     place += 3;
@@ -979,7 +979,7 @@ public final class GateNames {
             }
             // only now is it known which figures mean a goer
             for (int i = 0; i < goers; i++) {
-                toldAtFirst[i] &= (1 << goers) - 1 & ~(1 << i);
+                toldAtFirst[i] &= ((1 << goers) - 1) & ~(1 << i);
             }
             deedCount = 0;
             startAnew();
@@ -1032,9 +1032,7 @@ public final class GateNames {
         private void meetAside(int i, int j, int[] before, int[] then) {
             int ofI = tellingAs(kindOf[i], i, before[i]);
             int ofJ = tellingAs(kindOf[j], j, before[j]);
-            if (before != then) {
-                System.arraycopy(before, 0, then, 0, MOST_GOERS);
-            }
+            System.arraycopy(before, 0, then, 0, MOST_GOERS);
             then[i] |= ofJ & ~(1 << i);
             then[j] |= ofI & ~(1 << j);
         }
@@ -1053,7 +1051,7 @@ public final class GateNames {
 
         /** Whom goer i can name, were all told as in a list. */
         private int naming(int i, int[] toldThen) {
-            int named = toldThen[i] | 1 << i | ofKind[KING];
+            int named = toldThen[i] | (1 << i) | ofKind[KING];
             return (named & ofKind[SMITH]) != 0 ? named | ofKind[SMITH] : named;
         }
 
@@ -1139,15 +1137,16 @@ public final class GateNames {
             return (set & ~left) == 0;
         }
 
-        /** Whether each one left could go now or behind another: far cheaper than chain(). */
-        private boolean allReachable() {
-            int reachable = opened;
+        /** False if surely not all can come through: far cheaper to tell than by chain(). */
+        private boolean mayAllCome() {
+            int behindAnother = 0;
             for (int i = 0; i < goers; i++) {
                 if (isIn(left, i)) {
-                    reachable |= after[i] & ~(1 << i);
+                    behindAnother |= after[i] & ~(1 << i);
                 }
             }
-            return (left & ~reachable) == 0;
+            int mustBeFirst = left & ~behindAnother;
+            return (mustBeFirst & ~opened) == 0 && Integer.bitCount(mustBeFirst) <= 1;
         }
 
         /** For each set: who can be the first of a row of all of it. */
