@@ -306,7 +306,7 @@ public final class GateNames {
             answer = 0;
             return 0;
         }
-        int pair = firstMeeting();
+        int pair = firstMeeting(gate.told, firstTrial);
         if (pair != NONE) {
             answer = pair;
             return 1;
@@ -661,12 +661,13 @@ public final class GateNames {
         return road.comesThrough(road.left);
     }
 
-    private int firstMeeting() {
+    /** The first meeting by which all can come, were they told as before. */
+    private int firstMeeting(int[] before, int[] trial) {
         for (int i = 0; i < gate.goers; i++) {
             for (int j = i + 1; j < gate.goers; j++) {
                 if (gate.canMeet(i, j)) {
-                    gate.meetAside(i, j, gate.told, firstTrial);
-                    if (allCome(firstTrial)) {
+                    gate.meetAside(i, j, before, trial);
+                    if (allCome(trial)) {
                         return 10 * i + j;
                     }
                 }
@@ -680,23 +681,9 @@ public final class GateNames {
             for (int j = i + 1; j < gate.goers; j++) {
                 if (gate.canMeet(i, j)) {
                     gate.meetAside(i, j, gate.told, firstTrial);
-                    int second = secondMeeting();
+                    int second = firstMeeting(firstTrial, secondTrial);
                     if (second != NONE) {
                         return 100 * (10 * i + j) + second;
-                    }
-                }
-            }
-        }
-        return NONE;
-    }
-
-    private int secondMeeting() {
-        for (int i = 0; i < gate.goers; i++) {
-            for (int j = i + 1; j < gate.goers; j++) {
-                if (gate.canMeet(i, j)) {
-                    gate.meetAside(i, j, firstTrial, secondTrial);
-                    if (allCome(secondTrial)) {
-                        return 10 * i + j;
                     }
                 }
             }

@@ -167,6 +167,9 @@ public final class PromisesTest {
         asks(7, x, "mean of -3, -4, cut", x.mean(0), 1, -3);
         fill(x, 0, Integer.MAX_VALUE, Integer.MAX_VALUE, Integer.MAX_VALUE);
         asks(7, x, "mean of greatest ones", x.mean(0), 1, Integer.MAX_VALUE);
+        fill(x, 0, new int[40]);
+        x.lay(0, 39, 80);
+        asks(7, x, "mean of forty", x.mean(0), 1, 2);
         fill(x, 0, 8);
         asks(7, x, "mean of one", x.mean(0), 1, 8);
         x.row(0, 0);
@@ -226,6 +229,11 @@ public final class PromisesTest {
         fault("g00k00s00m00i00f00g00 g00", 22);
         fault("g00k00s00m00i00f00g00?", 21);
         fault("  g99   k99  ", NONE);
+        String blanks = " ".repeat(54);
+        fault(blanks + "g00k00", NONE);
+        fault(blanks + " g00k0", 60);
+        fault(blanks + "  g00k", 60);
+        fault("g00k00" + blanks, NONE);
         GateNames x = new GateNames();
         found(10, x, "fault of no text", x.fault(0), NOTHING);
         due(10, "fault(4)", x.fault(4), BAD);
@@ -644,6 +652,12 @@ public final class PromisesTest {
         due(30, "a mute", x.kinds(0, 0), 8);
         fill(x, 0, 6, 0, 6, 6);
         due(30, "of no kind", x.kinds(0, 0), 0);
+        fill(x, 0, new int[40]);
+        due(30, "twenty pairs", x.kinds(0, 0), 40);
+        x.lay(0, 39, 1);
+        due(30, "the last one unlike", x.kinds(0, 0), 0);
+        x.lay(0, 39, 8);
+        found(30, x, "the last number is none", x.kinds(0, 0), UNLIKE);
         fill(x, 0, 8, 0, 1);
         found(30, x, "SIZE ahead of UNLIKE", x.kinds(0, 0), SIZE);
         fill(x, 0, 8, 0);
